@@ -14,12 +14,19 @@ import java.util.TreeSet;
 public final class ModelTest {
     private static final int RUNS = 120;
     private static final int CALLS = 512;
+    private static final int TALKS = 400;
     private static int wrong = 0;
 
     public static void main(String[] args) {
         long calls = 0;
         for (int run = 0; run < RUNS && wrong < 20; run++) {
             calls += oneRun(run);
+        }
+        for (int run = 0; run < TALKS && wrong < 20; run++) {
+            calls += oneTalk(run);
+        }
+        for (int run = 0; run < Texts.RIGHT && wrong < 20; run++) {
+            calls += oneSweep(run);
         }
         System.out.println(calls + " calls, " + wrong + " wrong");
         if (wrong != 0) {
@@ -46,6 +53,56 @@ public final class ModelTest {
             }
         }
         return told.size();
+    }
+
+    /** A CONTRACT by chance, told world by world, and what two know of it. */
+    private static int oneTalk(int run) {
+        Random chance = new Random(-1 - run);
+        NoWordNo x = new NoWordNo();
+        Model m = new Model();
+        List<String> told = new ArrayList<>();
+        speak(run, chance, x, m, told, Texts.TONGUES[run % 5], true);
+        speak(run, chance, x, m, told, Texts.set(m, chance.nextInt(m.all()) + 1), false);
+        while (told.size() < CALLS - 10) {
+            int one = chance.nextInt(8);
+            int two = chance.nextInt(8);
+            int world = chance.nextInt(m.worlds.size());
+            int k = chance.nextInt(8);
+            due(run, told, "talk(" + one + ", " + two + ", " + world + ")", x.talk(one, two, world), m.talk(one, two, world));
+            due(run, told, "common(" + one + ", " + two + ", " + world + ")", x.common(one, two, world), m.common(one, two, world));
+            due(run, told, "silence(" + one + ", " + two + ", " + k + ")", x.silence(one, two, k), m.silence(one, two, k));
+        }
+        return told.size();
+    }
+
+    /** Every SET of a TONGUE, without WORDS: how it is said, made and refused. */
+    private static long oneSweep(int run) {
+        Random chance = new Random(run);
+        NoWordNo x = new NoWordNo();
+        Model m = new Model();
+        List<String> told = new ArrayList<>();
+        speak(run, chance, x, m, told, Texts.TONGUES[run], true);
+        long calls = 0;
+        int all = m.all();
+        for (int set = 0; set <= all && wrong < 20; set++) {
+            if (told.size() > CALLS - 50) {
+                calls += told.size();
+                told.clear();
+                x = new NoWordNo();
+                m.clear();
+                speak(run, chance, x, m, told, Texts.TONGUES[run], true);
+            }
+            due(run, told, "shortest(" + set + ")", x.shortest(set), m.shortest(set));
+            due(run, told, "refusal(" + set + ")", x.refusal(set), m.refusal(set));
+            due(run, told, "clause(" + set + ", 1)", x.clause(set, 1), m.clause(set, 1));
+            for (int i = 0; i < 3; i++) {
+                due(run, told, "made(" + set + ", " + i + ")", x.made(set, i), m.made(set, i));
+            }
+            for (int i = -1; i <= m.terms(set, -1); i++) {
+                due(run, told, "terms(" + set + ", " + i + ")", x.terms(set, i), m.terms(set, i));
+            }
+        }
+        return calls + told.size();
     }
 
     /** Types a text and has it read; what could not be read mostly goes. */
@@ -179,6 +236,19 @@ public final class ModelTest {
             put(chance, m, s, 0);
             String all = s.toString();
             return spoilt(chance, all.length() > 220 ? all.substring(0, 220) : all);
+        }
+
+        static String set(Model m, int set) {
+            StringBuilder s = new StringBuilder();
+            for (int w = 0; w < m.worlds.size(); w++) {
+                if ((set >> w & 1) == 1) {
+                    s.append(s.length() == 0 ? "" : "|");
+                    for (int c = 0; c < m.counts.length; c++) {
+                        s.append(c == 0 ? "" : "&").append((char) ('a' + c)).append(m.worlds.get(w)[c]);
+                    }
+                }
+            }
+            return s.toString();
         }
 
         private static void put(Random chance, Model m, StringBuilder s, int depth) {

@@ -197,6 +197,10 @@ public final class PromisesTest {
         tongueIs("choices 2;", -10);
         tongueIs(" Choice 2;", -11);
         tongueIs("choic 2;", -10);
+        tongueIs("xhoice 2;", -10);
+        tongueIs("choicz 2;", -10);
+        tongueIs("choicez 2;", -10);
+        tongueIs("choice 2;choicechoice 2;", -19);
         tongueIs("choice choice", -17);
         tongueIs("\tchoice 2;", -10);
         tongueIs("choice 2?", -18);
@@ -253,6 +257,8 @@ public final class PromisesTest {
         sayIs(x, "a 10", -12);
         sayIs(x, "a a", -12);
         sayIs(x, "ab 0", -10);
+        sayIs(x, "az 0", -10);
+        sayIs(x, "z 0", -10);
         sayIs(x, "0", -10);
         sayIs(x, "a 0 b 0", -14);
         sayIs(x, "a 0|", -14);
@@ -467,6 +473,9 @@ public final class PromisesTest {
         due("below", x.worst(-1), BAD);
         x.word(0b11111100);
         due("the next", x.worst(0), 11);
+        x.word(0b11110011);
+        due("the one behind that", x.worst(0), 12);
+        due("as long", x.worst(1), 3);
         NoWordNo y = new NoWordNo();
         due("none", y.worst(1), NONE);
         due("bad is first", y.worst(2), BAD);
@@ -600,7 +609,7 @@ public final class PromisesTest {
         // a chain that each silence shortens by its first world
         NoWordNo z = with("choice 3;choice 3;",
             "a 0&b 0|a 1&b 0|a 1&b 1|a 2&b 1|a 2&b 2");
-        due("by the fourth turn", z.talk(2, 1, 1), 3);
+        due("at the third", z.talk(2, 1, 1), 3);
         due("at the second", z.talk(2, 1, 0), 2);
     }
 
@@ -615,6 +624,11 @@ public final class PromisesTest {
         due("the first one's turn", x.silence(7, 0, 1), 0);
         due("then the other one's", x.silence(0, 7, 1), 51);
         due("then the other one's", x.silence(0, 7, 2), 0);
+        NoWordNo z = with("choice 3;choice 3;",
+            "a 0&b 0|a 1&b 0|a 1&b 1|a 2&b 1|a 2&b 2");
+        due("a chain", z.silence(1, 2, 1), 306);
+        due("shorter", z.silence(1, 2, 2), 48);
+        due("the first one's turn again", z.silence(1, 2, 3), 0);
         due("k beyond", x.silence(1, 2, 31), BAD);
         due("k below", x.silence(1, 2, -1), BAD);
         due("one beyond", x.silence(8, 2, 0), BAD);
