@@ -355,6 +355,16 @@ public final class BoundaryTextTest {
                 Checks.sayLeaves(x, " (".repeat(n) + " a 0" + " )".repeat(n), n <= 9 ? 1 : -29);
             }
         }
+        for (int n = 0; n <= 9; n++) {
+            String open = "(".repeat(n);
+            String close = ")".repeat(n);
+            Checks.sayLeaves(x, open + "a 0|a 1" + close, 3);
+            Checks.sayLeaves(x, open + "a 0&a 1" + close, 0);
+            Checks.sayLeaves(x, open + "a 0|a 0&a 1|a 1&a 1" + close, 3);
+            // each ( has a TERM of its own ahead of it and a FACTOR behind
+            Checks.sayLeaves(x, "a 1|(".repeat(n) + "a 0" + ")&a 0".repeat(n), n == 0 ? 1 : 3);
+            Checks.sayLeaves(x, "a 1&(".repeat(n) + "a 1|a 0" + ")|a 0".repeat(n), 3);
+        }
         String nine = "(((((((((a 0)))))))))";
         String ten = "((((((((((a 0))))))))))";
         Checks.sayLeaves(x, nine + "|" + nine + "&" + nine, 1);

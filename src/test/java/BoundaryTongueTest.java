@@ -23,6 +23,7 @@ public final class BoundaryTongueTest {
         choiceByItsLetters();
         noItems();
         readAnew();
+        oneBehindAnother();
         notReadAnew();
         Checks.end();
     }
@@ -277,6 +278,28 @@ public final class BoundaryTongueTest {
             Checks.due("an IMAGE anew", x.keep(1), 0);
             Checks.due("that IMAGE", x.back(1), 0);
             Checks.due("not the other one", x.back(0), STATE);
+        }
+    }
+
+    private static void oneBehindAnother() {
+        Checks.says("THE TEXT becomes THE TONGUE (nothing is left of the last one)");
+        for (int[] first : TONGUES) {
+            for (int[] second : TONGUES) {
+                NoWordNo x = Calls.with(Calls.tongueOf(first));
+                NoWordNo alone = Calls.with(Calls.tongueOf(second));
+                x.shortest(0);
+                Checks.due("the ITEMS", Calls.tongue(x, Calls.tongueOf(second)), second.length);
+                Checks.due("the WORLDS", x.count(1), alone.count(1));
+                for (int w = 0; w <= 9; w++) {
+                    for (int c = 0; c <= 3; c++) {
+                        Checks.due("value(" + w + ", " + c + ")", x.value(w, c), alone.value(w, c));
+                    }
+                }
+                for (int set = 0; set <= Calls.all(alone); set += 5) {
+                    Checks.due("shortest(" + set + ")", x.shortest(set), alone.shortest(set));
+                    Checks.due("common in WORLD 0", x.common(set & 7, 3, 0), alone.common(set & 7, 3, 0));
+                }
+            }
         }
     }
 

@@ -40,6 +40,7 @@ public final class RefusedTest {
         inState("some of all", RefusedTest::someOfAll);
         inState("all that there may be", RefusedTest::allFull);
         inState("little room, and a FAULT", RefusedTest::littleRoom);
+        inState("no SAYINGS", RefusedTest::noSayings);
         inState("an empty CONTRACT", RefusedTest::emptyContract);
         Checks.end();
     }
@@ -97,7 +98,17 @@ public final class RefusedTest {
         NoWordNo x = Calls.with("choice 2;choice 2;", "a 0|b 0");
         x.keep(1);
         x.word(6);
-        Calls.type(x, "a 0|" + Calls.blanks(180) + "(b 0|a 2");
+        Calls.type(x, "a 0|" + Calls.blanks(183) + "(b 0|a 2");
+        return x;
+    }
+
+    private static NoWordNo noSayings() {
+        NoWordNo x = Calls.withWords("choice 5;", 3, 28);
+        Calls.say(x, "w 1");
+        x.keep(0);
+        x.mark(2, 0);
+        x.unsay();
+        Calls.type(x, "w 0|a 0");
         return x;
     }
 
@@ -131,11 +142,11 @@ public final class RefusedTest {
 
     private static void refuseTexts(Making making) {
         for (int n : new int[] {LOWEST, -1, 0, 9, HIGHEST}) {
-            refuse("type(.., " + n + ")", x -> x.type(0x6120307c61203130L, n), BAD);
+            refuse("type(.., " + n + ")", x -> x.type(0x6120307c61203031L, n), BAD);
         }
         for (int n = Calls.MOST_BYTES - making.make().count(4) + 1; n <= 8; n++) {
             int bytes = n;
-            refuse("type(.., " + n + ")", x -> x.type(0x6120307c61203130L, bytes), FULL);
+            refuse("type(.., " + n + ")", x -> x.type(0x6120307c61203031L, bytes), FULL);
         }
         long tongue = making.make().tongue();
         if (tongue < 0) {
